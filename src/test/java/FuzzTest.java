@@ -3,7 +3,9 @@ import java.nio.charset.StandardCharsets;
 import java.util.ArrayList;
 import java.util.Arrays;
 import java.util.Comparator;
+import java.util.HashMap;
 import java.util.List;
+import java.util.Map;
 import java.util.Random;
 
 /** Runs of calls, the same on the class and on the naive model: every answer must be the same. */
@@ -12,7 +14,24 @@ public final class FuzzTest {
     private static final int[] ODD = {-1, -2, 6, 7, 13, 21, 31, 37, 61, 99, 100, 1000, 1001, Integer.MAX_VALUE,
         Integer.MIN_VALUE};
     private static final String[] FACTS = {"which", "step", "column", "row", "tilt", "night"};
-    private static final String[] SIGNS = {"+", "-", "*", "/", "%", "<", ">", "=", "and", "or"};
+    /** By the call: what its numbers are at the most, when they can be. */
+    private static final Map<String, int[]> MOST = new HashMap<>();
+
+    static {
+        for (String row : new String[] {"end 40", "fault 1", "house 4 5", "spot 35 2", "walk 4", "hedge 35", "cut 35",
+            "will 4 60 2", "back 4", "meet 4 4", "plan 4 10", "fence 4 4 20", "post 20 1", "way 35", "chase 4 3 1",
+            "haunt 60", "stray 4 60", "suits 4", "gather 60", "swap 2", "bell 20 1", "homely 60", "quarrels 60",
+            "closest 2", "law 12", "odds 4 1", "lies 10", "seen 12 35", "untell 9", "later 5", "fits 30", "sure 1 30",
+            "ask 1 30", "image 2", "restore 2", "about 16"}) {
+            String[] parts = row.split(" ");
+            int[] most = new int[parts.length - 1];
+            for (int i = 0; i < most.length; i++) {
+                most[i] = Integer.parseInt(parts[i + 1]);
+            }
+            MOST.put(parts[0], most);
+        }
+    }
+
     private static final String SOUP = "abz0159;()<>=+-*/% \n!A~{`";
 
     private final Random random;
@@ -48,20 +67,26 @@ public final class FuzzTest {
         x = new NightHouses();
         model = new Model();
         told.setLength(0);
-        tell();
+        for (int i = 0; i < 5 && model.about(0) == 0; i++) {
+            tell();
+        }
         int calls = 20 + pick(180);
         for (int i = 0; i < calls; i++) {
-            int sort = pick(100);
+            int sort = pick(200);
             if (sort < 1) {
                 tell();
-            } else if (sort < 25) {
-                call("step", pick(2) == 0);
             } else if (sort < 30) {
+                call("step", pick(2) == 0);
+            } else if (sort < 40) {
                 call("walk", 1 + pick(4));
-            } else if (sort < 34) {
+            } else if (sort < 44) {
                 call("hedge", pick(36));
-            } else if (sort < 38) {
-                call("seen", pick(13), pick(pick(2) == 0 ? 36 : 4), pick(3) == 0);
+            } else if (sort < 50) {
+                call("seen", pick(13), pick(pick(2) == 0 ? 36 : 4), pick(6) == 0);
+            } else if (sort < 52) {
+                call("redo");
+            } else if (sort < 70 && model.about(0) > 1) {
+                askOfTwo();
             } else {
                 any();
             }
@@ -70,17 +95,39 @@ public final class FuzzTest {
 
     private void any() throws Exception {
         Method method = methods.get(pick(methods.size()));
+        String name = method.getName();
+        if (name.equals("land") && pick(8) != 0) {
+            return;
+        }
         Class<?>[] types = method.getParameterTypes();
         Object[] with = new Object[types.length];
+        int[] most = MOST.getOrDefault(name, new int[0]);
         for (int i = 0; i < types.length; i++) {
-            with[i] = types[i] == boolean.class ? (Object) (pick(2) == 0) : (Object) number();
+            with[i] = types[i] == boolean.class ? (Object) (pick(2) == 0) : (Object) number(i < most.length ? most[i] : 3);
         }
-        call(method.getName(), with);
+        call(name, with);
+        if (name.equals("plan") || name.equals("fence")) {
+            for (int i = 0; i <= model.about(14); i++) {
+                call("lies", i);
+            }
+        }
     }
 
-    private int number() {
-        int sort = pick(20);
-        return sort == 0 ? ODD[pick(ODD.length)] : pick(sort < 14 ? 4 : sort < 18 ? 12 : 61);
+    /** What is asked of two houses that there are is seldom asked by chance alone. */
+    private void askOfTwo() throws Exception {
+        int house = pick(model.about(0));
+        int other = (house + 1 + pick(model.about(0) - 1)) % model.about(0);
+        call("meet", house, other);
+        call("fence", house, other, pick(21));
+        call("lies", 0);
+        call("lies", 1);
+        call("plan", house, pick(11));
+        call("back", other);
+        call("chase", other, 1 + pick(3), pick(2));
+    }
+
+    private int number(int most) {
+        return pick(25) == 0 ? ODD[pick(ODD.length)] : pick(30) == 0 ? most + 1 : pick(most + 1);
     }
 
     private void call(String name, Object... with) throws Exception {
@@ -104,7 +151,10 @@ public final class FuzzTest {
 
     private void tell() throws Exception {
         String text = text();
-        if (pick(4) == 0) {
+        if (text.length() > 1600) {
+            text = text.substring(0, 1600);
+        }
+        if (pick(6) == 0) {
             text = spoilt(text);
         }
         told.append("text: ").append(text).append('\n');
@@ -156,7 +206,7 @@ public final class FuzzTest {
             }
             hedged[cell] = true;
         }
-        int houses = pick(60) == 0 ? 6 : pick(6);
+        int houses = pick(60) == 0 ? 6 : pick(4) == 0 ? pick(3) : 2 + pick(4);
         for (int i = 0; i < houses; i++) {
             int cell = free(hedged, columns * rows);
             all.append(pick(3) == 0 ? "\n" : "").append("house ").append("abcdefghijkl".charAt(pick(30) == 0 ? 0 : i))
@@ -167,7 +217,7 @@ public final class FuzzTest {
             all.append("cat ").append(cell % columns).append(" ").append(cell / columns).append(";");
         }
         if (pick(12) != 0) {
-            all.append("goes ").append(formula(pick(50) == 0 ? 40 : 1 + pick(9), 0)).append(";");
+            all.append("goes ").append((pick(3) == 0 ? formula(0) : pick(9) == 0 ? deep() : lively())).append(";");
         }
         if (pick(2) == 0) {
             all.append("calls ").append(pick(12)).append(";");
@@ -189,21 +239,62 @@ public final class FuzzTest {
         return cell;
     }
 
-    private String formula(int units, int depth) {
+    /** A formula by which houses go about much, so that they meet, stray and come home. */
+    private String lively() {
         StringBuilder all = new StringBuilder();
-        for (int i = 0; i < units; i++) {
-            if (i > 0) {
-                all.append(" ").append(SIGNS[pick(pick(3) == 0 ? SIGNS.length : 5)]).append(" ");
-            }
-            boolean inner = depth < 9 && pick(6) == 0;
-            String not = pick(25) == 0 && (i == 0 || all.toString().matches("(?s).*(and|or) ")) ? "not " : "";
-            all.append(not);
-            if (inner) {
-                all.append("(").append(formula(1 + pick(4), depth + 1)).append(")");
+        for (int i = 0; i < 1 + pick(5); i++) {
+            all.append(i == 0 ? "" : pick(4) == 0 ? " - " : " + ").append(FACTS[pick(6)]);
+            all.append(pick(2) == 0 ? "" : (pick(2) == 0 ? " * " : " / ") + (1 + pick(7)));
+        }
+        return pick(3) == 0 ? all + " + 1 + (" + formula(3) + ")" : all.toString();
+    }
+
+    /** What stands within about as many others as can be. */
+    private String deep() {
+        StringBuilder ahead = new StringBuilder();
+        StringBuilder behind = new StringBuilder();
+        for (int i = 5 + pick(4); i > 0; i--) {
+            if (pick(2) == 0) {
+                ahead.append("not ");
             } else {
-                all.append(pick(2) == 0 ? FACTS[pick(6)] : Integer.toString(pick(pick(9) == 0 ? 10000 : 9)));
+                ahead.append("(");
+                behind.append(")");
             }
         }
+        return ahead + (pick(2) == 0 ? "row" : "step + 1") + behind;
+    }
+
+    private String formula(int depth) {
+        return several(depth, " or ", 4);
+    }
+
+    private String several(int depth, String between, int often) {
+        StringBuilder all = new StringBuilder();
+        for (int i = 0; i == 0 || pick(often) == 0; i++) {
+            all.append(i == 0 ? "" : between).append(between.equals(" or ") ? several(depth, " and ", 4) : one(depth));
+        }
         return all.toString();
+    }
+
+    private String one(int depth) {
+        if (pick(9) == 0) {
+            return "not " + one(depth + 1);
+        }
+        return sum(depth) + (pick(3) == 0 ? " " + "<>=".charAt(pick(3)) + sum(depth) : "");
+    }
+
+    private String sum(int depth) {
+        StringBuilder all = new StringBuilder(unit(depth));
+        for (int i = 0; i < pick(pick(40) == 0 ? 30 : 4); i++) {
+            all.append(' ').append("+-*/%".charAt(pick(5))).append(' ').append(unit(depth));
+        }
+        return all.toString();
+    }
+
+    private String unit(int depth) {
+        if (pick(7 + depth) == 0) {
+            return "(" + formula(depth + 1) + ")";
+        }
+        return pick(2) == 0 ? FACTS[pick(6)] : Integer.toString(pick(pick(9) == 0 ? 10000 : 9));
     }
 }
