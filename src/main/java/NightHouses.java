@@ -414,7 +414,7 @@ public final class NightHouses {
         if (!arePair(house, other) || n < 0 || n > NEAR_AHEAD) {
             return NONE;
         }
-        int hedges = fencer.fewestHedges(told, now, house * MOST_HOUSES + other, n, bareCells());
+        int hedges = fencer.fewestHedges(told, now, house, other, n, bareCells());
         if (hedges != NONE) {
             lying[0] = fencer.first;
             lying[1] = fencer.second;
@@ -1620,7 +1620,7 @@ public final class NightHouses {
             lengths[from] = 0;
             queue[0] = from;
             reached = 1;
-            for (int i = 0; i < reached; i++) {
+            for (int i = 0; i < reached && i < MOST_CELLS; i++) {
                 int cell = queue[i];
                 for (int way = 1; way < WAYS; way++) {
                     int to = land.goal(hedges, cell, way);
@@ -1732,11 +1732,11 @@ public final class NightHouses {
         int first;
         int second;
 
-        int fewestHedges(Land told, Night now, int pair, int n, long bare) {
+        int fewestHedges(Land told, Night now, int one, int two, int n, long bare) {
             land = told;
             start = now;
-            house = pair / MOST_HOUSES;
-            other = pair % MOST_HOUSES;
+            house = one;
+            other = two;
             steps = n;
             first = NONE;
             second = NONE;
@@ -1870,9 +1870,10 @@ public final class NightHouses {
             for (int from = 0; from < land.cells; from++) {
                 trial.begin(land);
                 trial.cells[last] = from;
-                for (int stop = 0; stop < STOPS; stop++) {
-                    track[from * STOPS + stop] = trial.cells[last];
+                track[from * STOPS] = from;
+                for (int stop = 1; stop < STOPS; stop++) {
                     Steps.take(land, trial, NONE, false);
+                    track[from * STOPS + stop] = trial.cells[last];
                 }
             }
             tracked = true;
