@@ -277,5 +277,11 @@ public final class ActsTest {
         Check.due("once more", x.restore(2), 1);
         Check.due("about(6)", x.about(6), 1);
         Check.due("restore(1)", x.restore(1), -1);
+        x.dawn();
+        Check.due("image(0)", x.image(0), 2);
+        x.dawn();
+        Check.due("restore(0)", x.restore(0), 2);
+        Check.due("restore(2)", x.restore(2), 1);
+        Check.due("restore(3)", x.restore(3), -1);
     }
 }

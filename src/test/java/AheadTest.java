@@ -122,6 +122,11 @@ public final class AheadTest {
         fenced(same, 0, 1, 0, -1, "");
         NightHouses cat = Check.told("land 5 by 1;house a at 0 0;house b at 4 0;cat 1 0;calls 0;goes 2+which*2;");
         fenced(cat, 0, 1, 5, 1, "2");
+        NightHouses last = Check.told("land 3 by 1;house a at 2 0;house b at 1 0;cat 2 0;calls 0;goes 4-which*(step>0)*2;");
+        fenced(last, 0, 1, 2, 0, "");
+        fenced(last, 0, 1, 1, 0, "");
+        NightHouses zero = Check.told("land 3 by 2;house a at 1 0;house b at 0 1;cat 2 1;goes 4-which*3;");
+        fenced(zero, 0, 1, 1, 1, "0");
     }
 
     private static void fenceOfTwo() {
@@ -199,6 +204,12 @@ public final class AheadTest {
         NightHouses end = Check.told("land 3 by 1;house a at 2 0;cat 0 0;");
         Check.due("at the land's end: chase(0, 1, 0)", end.chase(0, 1, 0), 1);
         Check.due("of like ways the least", end.chase(0, 1, 1), 0);
+        NightHouses corner = Check.told("land 2 by 2;house a at 0 0;cat 1 1;");
+        Check.due("around and around: chase(0, 1, 0)", corner.chase(0, 1, 0), 1);
+        Check.due("around and around: chase(0, 2, 0)", corner.chase(0, 2, 0), 1);
+        NightHouses gap = Check.told("land 4 by 2;hedge 1 0;hedge 2 0;house a at 3 0;cat 0 0;");
+        Check.due("round the hedges: chase(0, 1, 0)", gap.chase(0, 1, 0), 3);
+        Check.due("round the hedges: chase(0, 1, 1)", gap.chase(0, 1, 1), 0);
         NightHouses hedged = Check.told("land 3 by 1;hedge 1 0;house a at 2 0;cat 0 0;");
         Check.due("behind a hedge: chase(0, 3, 0)", hedged.chase(0, 3, 0), 2);
     }

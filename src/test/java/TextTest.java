@@ -9,6 +9,7 @@ public final class TextTest {
         cellsAndNames();
         lineSorts();
         numbers();
+        toldTwice();
         units();
         depth();
         formulas();
@@ -199,6 +200,24 @@ public final class TextTest {
         Check.due("about(15)", x.about(15), 10);
         Check.due("about(16)", x.about(16), 100);
         Check.due("about(7)", x.about(7), 999);
+    }
+
+    private static void toldTwice() {
+        NightHouses x = Check.told("land 2 by 2;hedge 1 1;house a at 0 0;cat 1 0;goes 3;calls 1;gale 7;draw 9;");
+        x.step(false);
+        x.dawn();
+        for (int i = 0; i < 3; i++) {
+            Check.tape(x, "house a at 1 0;hedge 0 0;cat 2 0;calls 0;gale 0;draw 0;goes 0;");
+            Check.due("told again", x.land(), 1);
+        }
+        Check.tape(x, "house b at 0 0;");
+        Check.due("told less", x.land(), 1);
+        int[] due = {1, 6, 6, 0, 0, 0, 0, 0, 0, 0, 0, 0, 0, 0, 0, 2, 0};
+        for (int what = 0; what < due.length; what++) {
+            Check.due("told less: about(" + what + ")", x.about(what), due[what]);
+        }
+        Check.due("house(0, 3)", x.house(0, 3), 0);
+        Check.due("house(0, 4)", x.house(0, 4), 0);
     }
 
     private static void units() {
