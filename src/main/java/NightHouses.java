@@ -91,9 +91,11 @@ public final class NightHouses {
     }
 
     public int land() {
-        if (!reader.read(tape, taped, draft)) {
+        reader.begin(tape, taped, draft);
+        if (!reader.read()) {
             return NONE;
         }
+        draft.finish();
         Land before = told;
         told = draft;
         draft = before;
@@ -525,7 +527,7 @@ public final class NightHouses {
             return NONE;
         }
         walks.spread(told, now.hedges, now.cat);
-        return walks.lengths[spot];
+        return walks.lengthTo(spot);
     }
 
     public int realm() {
@@ -538,7 +540,7 @@ public final class NightHouses {
         int first = NONE;
         int least = MOST_CELLS;
         for (int house = 0; house < told.houses; house++) {
-            int length = walks.lengths[now.cells[house]];
+            int length = walks.lengthTo(now.cells[house]);
             boolean away = now.cells[house] != told.homes[house];
             if (away && length != NONE && length < least) {
                 least = length;
@@ -552,7 +554,7 @@ public final class NightHouses {
         int bits = 0;
         for (int house = 0; house < told.houses; house++) {
             walks.spread(told, now.hedges, now.cells[house]);
-            if (walks.lengths[told.homes[house]] == NONE) {
+            if (walks.lengthTo(told.homes[house]) == NONE) {
                 bits |= 1 << house;
             }
         }
@@ -788,9 +790,9 @@ public final class NightHouses {
     private static final class Land {
         final int[] homes = new int[MOST_HOUSES];
         final Formula formula = new Formula();
-        final int[] columnOf = new int[MOST_CELLS];
-        final int[] rowOf = new int[MOST_CELLS];
-        final int[] beside = new int[MOST_CELLS * WAYS];
+        private final int[] columnOf = new int[MOST_CELLS];
+        private final int[] rowOf = new int[MOST_CELLS];
+        private final int[] beside = new int[MOST_CELLS * WAYS];
         int columns;
         int rows;
         int cells;
@@ -859,16 +861,23 @@ public final class NightHouses {
 
         /** Where one comes to from a cell by a way, with these hedges. */
         int goal(long standing, int cell, int way) {
-            int at = cell * WAYS + way;
-            if (at < 0 || at >= beside.length) {
+            if (cell < 0 || cell >= MOST_CELLS || way < 0 || way >= WAYS) {
                 return cell;
             }
-            int to = beside[at];
+            int to = beside[cell * WAYS + way];
             return (standing >>> to & 1) != 0 ? cell : to;
         }
 
+        int columnAt(int cell) {
+            return cell >= 0 && cell < MOST_CELLS ? columnOf[cell] : 0;
+        }
+
+        int rowAt(int cell) {
+            return cell >= 0 && cell < MOST_CELLS ? rowOf[cell] : 0;
+        }
+
         int far(int one, int other) {
-            return Math.abs(columnOf[one] - columnOf[other]) + Math.abs(rowOf[one] - rowOf[other]);
+            return Math.abs(columnAt(one) - columnAt(other)) + Math.abs(rowAt(one) - rowAt(other));
         }
     }
 
@@ -1027,20 +1036,14 @@ public final class NightHouses {
                     night.cells[house] = land.goal(night.hedges, night.cells[house], nextWay(land, night, house));
                 }
             }
-            if (gales) {
-                blow(land, night);
-            }
-            quarrel(land, night);
-            night.step++;
-        }
-
-        private static void blow(Land land, Night night) {
-            for (int house = 0; house < land.houses; house++) {
+            for (int house = 0; gales && house < land.houses; house++) {
                 night.seed = (night.seed * 137 + 71) % SEEDS;
                 if (night.seed % 100 < land.gale) {
                     night.cells[house] = land.goal(night.hedges, night.cells[house], nextWay(land, night, house));
                 }
             }
+            quarrel(land, night);
+            night.step++;
         }
 
         private static void quarrel(Land land, Night night) {
@@ -1080,15 +1083,15 @@ public final class NightHouses {
 
         static int nextWay(Land land, Night night, int house) {
             int cell = night.cells[house];
-            land.formula.setPlace(house, land.columnOf[cell], land.rowOf[cell]);
+            land.formula.setPlace(house, land.columnAt(cell), land.rowAt(cell));
             land.formula.setTimes(night.step, night.tilts[house], night.number);
             return Math.floorMod(land.formula.worth(), WAYS);
         }
 
         private static int cellCalledTo(Land land, Night night, int house) {
             int cell = night.cells[house];
-            int aside = land.columnOf[night.cat] - land.columnOf[cell];
-            int along = land.rowOf[night.cat] - land.rowOf[cell];
+            int aside = land.columnAt(night.cat) - land.columnAt(cell);
+            int along = land.rowAt(night.cat) - land.rowAt(cell);
             if (aside != 0) {
                 int to = land.goal(night.hedges, cell, aside > 0 ? 2 : 4);
                 if (to != cell) {
@@ -1228,42 +1231,41 @@ public final class NightHouses {
             if (next >= length) {
                 kind = OVER;
             } else if (isLetter(sign)) {
-                readWord();
+                passLetters();
+                kind = next - place > MOST_LETTERS ? NO_TOKEN : kindOfWord();
             } else if (isDigit(sign)) {
-                readNumber();
+                passDigits();
+                kind = next - place > MOST_DIGITS || isLetter(byteAt(next)) ? NO_TOKEN : NUMBER;
             } else {
                 kind = SIGNS.indexOf((char) sign) >= 0 ? sign : NO_TOKEN;
                 next++;
             }
         }
 
-        private void readWord() {
+        private void passLetters() {
             word = 0;
             while (next < length && isLetter(byteAt(next))) {
                 word = word * 32 + (byteAt(next) - 'a' + 1);
                 next++;
             }
-            kind = next - place > MOST_LETTERS ? NO_TOKEN : kindOf(word);
         }
 
-        private void readNumber() {
+        private void passDigits() {
             number = 0;
             while (next < length && isDigit(byteAt(next))) {
                 number = number * 10 + (byteAt(next) - '0');
                 next++;
             }
-            boolean tooLong = next - place > MOST_DIGITS;
-            kind = tooLong || isLetter(byteAt(next)) ? NO_TOKEN : NUMBER;
         }
 
-        private static int kindOf(long packed) {
+        private int kindOfWord() {
             long each = 0;
             int found = FIRST_WORD;
             for (int i = 0; i < WORDS.length(); i++) {
                 char sign = WORDS.charAt(i);
                 if (sign != ' ') {
                     each = each * 32 + (sign - 'a' + 1);
-                } else if (each == packed) {
+                } else if (each == word) {
                     return found;
                 } else {
                     each = 0;
@@ -1297,7 +1299,8 @@ public final class NightHouses {
         int fault = 0;
         int faultPlace = NONE;
 
-        boolean read(byte[] text, int length, Land into) {
+        /** To be called ahead of read: where the text is, and where its land is to be written. */
+        void begin(byte[] text, int length, Land into) {
             land = into;
             land.clear();
             catTold = false;
@@ -1306,16 +1309,47 @@ public final class NightHouses {
             galeTold = false;
             drawTold = false;
             hedgesTold = 0;
+            unitsInOne = 0;
             fault = 0;
             faultPlace = NONE;
             tokens.begin(text, length);
-            for (int line = 0; line <= MOST_BYTES && tokens.kind != Tokens.OVER; line++) {
-                if (!readLine(line == 0) || !pass(';')) {
-                    return false;
+        }
+
+        boolean read() {
+            boolean good = land != null;
+            for (int line = 0; good && line <= MOST_BYTES && tokens.kind != Tokens.OVER; line++) {
+                switch (tokens.kind) {
+                    case Tokens.LAND:
+                        good = passFirst(line == 0) && readSize();
+                        break;
+                    case Tokens.HEDGE:
+                        good = passFirst(hedgesTold < MOST_TOLD_HEDGES) && readHedge();
+                        break;
+                    case Tokens.HOUSE:
+                        good = passFirst(land.houses < MOST_HOUSES) && readHouse();
+                        break;
+                    case Tokens.CAT:
+                        good = passFirst(!catTold) && readCat();
+                        break;
+                    case Tokens.GOES:
+                        good = passFirst(!goesTold) && readGoes();
+                        break;
+                    case Tokens.CALLS:
+                        good = passFirst(!callsTold) && readCalls();
+                        break;
+                    case Tokens.GALE:
+                        good = passFirst(!galeTold) && readGale();
+                        break;
+                    case Tokens.DRAW:
+                        good = passFirst(!drawTold) && readDraw();
+                        break;
+                    default:
+                        good = refuseToken();
+                        break;
                 }
+                good = good && pass(';');
             }
-            land.finish();
-            return true;
+            return good;
         }
 
         private boolean refuse(int which, int place) {
@@ -1340,29 +1374,6 @@ public final class NightHouses {
         /** Passes a line's first word, if a line of its sort may still come. */
         private boolean passFirst(boolean may) {
             return may ? pass(tokens.kind) : refuseToken();
-        }
-
-        private boolean readLine(boolean first) {
-            switch (tokens.kind) {
-                case Tokens.LAND:
-                    return passFirst(first) && readSize();
-                case Tokens.HEDGE:
-                    return passFirst(hedgesTold < MOST_TOLD_HEDGES) && readHedge();
-                case Tokens.HOUSE:
-                    return passFirst(land.houses < MOST_HOUSES) && readHouse();
-                case Tokens.CAT:
-                    return passFirst(!catTold) && readCat();
-                case Tokens.GOES:
-                    return passFirst(!goesTold) && readGoes();
-                case Tokens.CALLS:
-                    return passFirst(!callsTold) && readCalls();
-                case Tokens.GALE:
-                    return passFirst(!galeTold) && readGale();
-                case Tokens.DRAW:
-                    return passFirst(!drawTold) && readDraw();
-                default:
-                    return refuseToken();
-            }
         }
 
         private boolean readNumber(int least, int most) {
@@ -1442,7 +1453,6 @@ public final class NightHouses {
         }
 
         private boolean readGoes() {
-            unitsInOne = 0;
             goesTold = true;
             return readEither(0);
         }
@@ -1610,27 +1620,38 @@ public final class NightHouses {
 
     /** How many ways of going it is from one cell to the others, and counts by cell. */
     private static final class Walks {
-        final int[] lengths = new int[MOST_CELLS];
+        private final int[] lengths = new int[MOST_CELLS];
         private final int[] queue = new int[MOST_CELLS];
         private final int[] counts = new int[MOST_CELLS];
         int reached;
 
         void spread(Land land, long hedges, int from) {
             Arrays.fill(lengths, NONE);
-            lengths[from] = 0;
-            queue[0] = from;
-            reached = 1;
+            reached = 0;
+            reach(from, 0);
             for (int i = 0; i < reached && i < MOST_CELLS; i++) {
-                int cell = queue[i];
+                int length = lengthTo(queue[i]) + 1;
                 for (int way = 1; way < WAYS; way++) {
-                    int to = land.goal(hedges, cell, way);
-                    if (lengths[to] == NONE && reached < MOST_CELLS) {
-                        lengths[to] = lengths[cell] + 1;
-                        queue[reached] = to;
-                        reached++;
-                    }
+                    reach(land.goal(hedges, queue[i], way), length);
                 }
             }
+        }
+
+        private void reach(int cell, int length) {
+            if (isCell(cell) && lengths[cell] == NONE && reached < MOST_CELLS) {
+                lengths[cell] = length;
+                queue[reached] = cell;
+                reached++;
+            }
+        }
+
+        private static boolean isCell(int cell) {
+            return cell >= 0 && cell < MOST_CELLS;
+        }
+
+        /** NONE, if one can't come there from where it was spread. */
+        int lengthTo(int cell) {
+            return isCell(cell) ? lengths[cell] : NONE;
         }
 
         void clearCounts() {
@@ -1639,7 +1660,10 @@ public final class NightHouses {
 
         void countHouses(Land land, Night night) {
             for (int house = 0; house < land.houses; house++) {
-                counts[night.cells[house]]++;
+                int cell = night.cells[house];
+                if (isCell(cell)) {
+                    counts[cell]++;
+                }
             }
         }
 
@@ -1682,8 +1706,11 @@ public final class NightHouses {
 
         /** Goes on without a call ahead of with one, so that of like plans the first is found first. */
         private void seek(int depth, int calls) {
+            if (depth < 0 || depth > steps || calls >= fewest) {
+                return;
+            }
             int away = land.far(rows[depth].cells[house], land.homes[house]);
-            if (calls >= fewest || away > steps - depth) {
+            if (away > steps - depth) {
                 return;
             }
             if (depth >= steps) {
@@ -1879,6 +1906,11 @@ public final class NightHouses {
             tracked = true;
         }
 
+        private int cellBehind(int from, int stop) {
+            int at = from * STOPS + stop;
+            return at >= 0 && at < track.length ? track[at] : 0;
+        }
+
         /** The cells that fit as known at k, as bits. */
         long fitting(Land land, int k) {
             if (land.houses == 0) {
@@ -1897,7 +1929,7 @@ public final class NightHouses {
         private long agreeing(Land land, int which) {
             long cells = 0;
             for (int cell = 0; cell < land.cells; cell++) {
-                boolean there = track[cell * STOPS + steps[which]] == spots[which];
+                boolean there = cellBehind(cell, steps[which]) == spots[which];
                 if (there == wasThere[which]) {
                     cells |= 1L << cell;
                 }
@@ -1910,8 +1942,8 @@ public final class NightHouses {
             Arrays.fill(counts, 0);
             int most = 0;
             for (int cell = 0; cell < land.cells; cell++) {
-                if ((cells >>> cell & 1) != 0) {
-                    int at = track[cell * STOPS + behind];
+                int at = cellBehind(cell, behind);
+                if ((cells >>> cell & 1) != 0 && at >= 0 && at < MOST_CELLS) {
                     counts[at]++;
                     most = Math.max(most, counts[at]);
                 }
