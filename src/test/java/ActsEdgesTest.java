@@ -262,6 +262,10 @@ public final class ActsEdgesTest {
         Check.due("in her column, behind a hedge", called("land 5 by 5;cat 2 2;hedge 2 1;house a at 2 0;goes 2;"), 2);
         Check.due("in her column", called("land 5 by 5;cat 2 2;house a at 2 0;goes 2;"), 7);
         Check.due("at her cell", called("land 5 by 5;cat 2 2;house a at 2 2;goes 2;"), 12);
+        Check.due("from the row before", called("land 5 by 5;cat 2 2;house a at 2 1;goes 2;"), 12);
+        Check.due("from the next row", called("land 5 by 5;cat 2 2;house a at 2 3;goes 2;"), 12);
+        Check.due("from the column before", called("land 5 by 5;cat 2 2;house a at 1 2;goes 1;"), 12);
+        Check.due("from the next column", called("land 5 by 5;cat 2 2;house a at 3 2;goes 1;"), 12);
     }
 
     private static void tilt() {

@@ -59,6 +59,33 @@ public final class AheadEdgesTest {
         NightHouses y = Check.told(calm);
         y.walk(2);
         Check.due("to where she is now", y.will(0, 5, 2) * 10 + y.will(1, 5, 2), 33);
+        calmInGales();
+    }
+
+    /** Lands in which each gale that was not told of would show. */
+    private static void calmInGales() {
+        NightHouses two = Check.told(TOWARDS + "gale 100;");
+        Check.due("meet", two.meet(0, 1), 2);
+        Check.due("quarrels(1)", two.quarrels(1), 0);
+        Check.due("quarrels(2)", two.quarrels(2), 2);
+        Check.due("haunt(1)", two.haunt(1), 1);
+        Check.due("gather(1)", two.gather(1), 1);
+        Check.due("stray(1, 1)", two.stray(1, 1), 1);
+        fenced(two, 0, 1, 1, 0, "");
+        fenced(two, 0, 1, 2, 1, "1");
+        NightHouses home = Check.told("land 6 by 1;house a at 3 0;cat 3 0;calls 1;goes 4;gale 100;");
+        Check.due("will(0, 1, 0)", home.will(0, 1, 0), 2);
+        Check.due("will(0, 1, 2)", home.will(0, 1, 2), 3);
+        Check.due("post(1, 0)", home.post(1, 0), 3);
+        Check.due("post(1, 1)", home.post(1, 1), 1);
+        Check.due("bell(1, 0)", home.bell(1, 0), 0);
+        Check.due("bell(1, 1)", home.bell(1, 1), 1);
+        Check.due("homely(1, true)", home.homely(1, true), 1);
+        planned(home, 0, 1, 1, "1");
+        NightHouses back = Check.told("land 6 by 1;house a at 0 0;goes 2+(step>0)*2;gale 100;");
+        back.step(false);
+        Check.due("a gale took it", back.house(0, 0), 2);
+        Check.due("back", back.back(0), 2);
     }
 
     private static void asks(NightHouses x, NightHouses y) {
@@ -327,6 +354,9 @@ public final class AheadEdgesTest {
         // b goes left and up in turns: round 2 it would come by 1, so that 2 alone does not do
         NightHouses pair = Check.told("land 2 by 2;house a at 0 0;house b at 1 1;cat 0 0;goes which*(4-step%2*3);");
         fenced(pair, 0, 1, 4, 2, "1 2");
+        NightHouses first = Check.told("land 2 by 2;house a at 1 0;house b at 0 1;cat 1 0;goes which*(1+step%2);");
+        fenced(first, 0, 1, 2, 1, "0");
+        fenced(first, 0, 1, 3, 2, "0 3");
     }
 
     private static void fenceHowLong() {

@@ -63,6 +63,16 @@ public final class SeenEdgesTest {
         x.image(0);
         x.restore(0);
         Check.due("images do not matter", x.fits(0), 0);
+        NightHouses again = Check.told("land 4 by 1;house a at 0 0;goes 2;");
+        again.seen(1, 3, true);
+        Check.due("the first land: from 2, 3", again.fits(0), 2);
+        Check.tape(again, "land 4 by 1;house a at 0 0;goes 4;");
+        again.land();
+        again.seen(1, 3, true);
+        Check.due("the land told last: from none", again.fits(0), 0);
+        again.untell(0);
+        again.seen(1, 0, true);
+        Check.due("the land told last: from 0, 1", again.fits(0) * 10 + again.sure(1, 0), 21);
     }
 
     private static void lastHouse() {
@@ -147,6 +157,14 @@ public final class SeenEdgesTest {
             Check.due("ask(0, 0) of " + goes, x.ask(0, 0), 0);
             Check.due("ask(1, 0) of " + goes, x.ask(1, 0), 1);
         }
+        NightHouses x = Check.told("land 2 by 1;house a at 0 0;goes 2;");
+        x.seen(0, 0, true);
+        Check.due("of the first cell alone: ask(0, 0)", x.ask(0, 0), 0);
+        Check.due("of the first cell alone: ask(1, 0)", x.ask(1, 0), 1);
+        x.untell(0);
+        x.seen(0, 1, true);
+        Check.due("of the last cell alone: ask(0, 0)", x.ask(0, 0), 0);
+        Check.due("of the last cell alone: ask(1, 0)", x.ask(1, 0), 1);
     }
 
     private static void seen() {

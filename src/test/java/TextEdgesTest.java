@@ -190,6 +190,11 @@ public final class TextEdgesTest {
         Check.fault("goes 1+;", 2, 7);
         Check.fault("goes 1-*2;", 2, 7);
         Check.fault("goes 1*not 2;", 2, 7);
+        for (String sign : new String[] {"+", "-", "*", "/", "%", "<", ">", "=", " and", " or"}) {
+            Check.fault("goes 1" + sign + ";", 2, 6 + sign.length());
+            Check.fault("goes (1" + sign + ");", 2, 7 + sign.length());
+            Check.fault("goes 1*2" + sign + ";", 2, 8 + sign.length());
+        }
         Check.fault("goes ();", 2, 6);
         Check.fault("goes (1;", 2, 7);
         Check.fault("goes 1);", 2, 6);
@@ -589,6 +594,12 @@ public final class TextEdgesTest {
         Check.refused(x, "restore(2)", () -> x.restore(2));
         Check.due("untell(0)", x.untell(0), false);
         Check.due("lies(0)", x.lies(0), -1);
+        String most = someHedges(8) + someHouses(5, "5 5") + "cat 4 4;goes " + "1+".repeat(29) + "1;calls 1;gale 1;draw 1;";
+        for (int i = 0; i < 3; i++) {
+            Check.tape(x, most);
+            Check.due("land() with as much as can be, again", x.land(), 5);
+            Check.due("its hedges and units", x.about(3) * 100 + x.about(13), 830);
+        }
         Check.tape(x, "");
         Check.due("land() of nothing", x.land(), 0);
         NightHouses empty = new NightHouses();
