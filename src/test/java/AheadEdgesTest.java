@@ -257,6 +257,12 @@ public final class AheadEdgesTest {
         NightHouses x = Check.told("land 3 by 1;house a at 0 0;cat 0 0;calls 10;goes 2;");
         planned(x, 0, 0, 0, "");
         planned(x, 0, 10, 2, "0 0 0 0 0 0 0 0 1 1");
+        NightHouses five = Check.told("land 3 by 1;house a at 2 0;house b at 2 0;house c at 2 0;house d at 2 0;house e at 0 0;"
+                + "cat 0 0;calls 0;goes (which=4)*2;");
+        planned(five, 4, 2, 2, "1 1");
+        NightHouses deaf = Check.told("land 3 by 1;house a at 2 0;house b at 2 0;house c at 2 0;house d at 2 0;house e at 1 0;"
+                + "cat 0 0;calls 0;goes (which=4)*2;");
+        planned(deaf, 4, 2, -1, "");
         NightHouses all = Check.told("land 3 by 1;house a at 0 0;cat 0 0;calls 0;goes 2;");
         planned(all, 0, 10, 10, "1 1 1 1 1 1 1 1 1 1");
         planned(all, 0, 1, 1, "1");
@@ -318,6 +324,8 @@ public final class AheadEdgesTest {
     private static void fenceWhere() {
         Check.sentence("at CELLS without HOUSE, cat, hedge now, however many there are)");
         fenced(Check.told(TOWARDS), 0, 1, 20, 1, "1");
+        fenced(Check.told("land 5 by 2;house a at 0 1;house b at 0 1;house c at 0 1;house d at 0 0;house e at 4 0;cat 0 0;"
+                + "goes (which>2)*(2+(which=4)*2);"), 3, 4, 20, 1, "1");
         fenced(Check.told("land 5 by 1;house a at 0 0;house b at 4 0;cat 1 0;goes 2+which*2;"), 0, 1, 20, 1, "2");
         fenced(Check.told("land 5 by 1;house a at 0 0;house b at 4 0;house c at 1 0;cat 2 0;goes (which<2)*(2+which*2);"), 0, 1, 20, 1, "3");
         fenced(Check.told("land 5 by 1;house a at 0 0;house b at 4 0;house c at 1 0;house d at 3 0;cat 2 0;goes (which<2)*(2+which*2);"),
@@ -462,6 +470,12 @@ public final class AheadEdgesTest {
         chased("land 3 by 1;house a at 2 0;cat 0 0;", 2, 0, 0);
         chased("land 1 by 1;house a at 0 0;cat 0 0;", 3, 0, 0);
         chased("land 3 by 1;hedge 1 0;house a at 2 0;cat 0 0;", 3, 2, 0);
+        for (int n = 1; n <= 3; n++) {
+            chased("land 6 by 6;house a at 5 5;cat 0 0;", n, 10 - n, 0);
+            chased("land 6 by 6;house a at 0 5;cat 5 0;", n, 10 - n, 0);
+            chased("land 6 by 6;house a at 5 0;cat 0 5;", n, 10 - n, 0);
+            chased("land 6 by 6;house a at 0 0;cat 5 5;", n, 10 - n, 0);
+        }
         chased("land 6 by 6;house a at 2 2;cat 2 3;", 1, 1, 1);
         chased("land 6 by 6;house a at 2 2;cat 2 2;", 1, 0, 0);
         chased("land 1 by 6;house a at 0 3;cat 0 5;", 1, 2, 1);

@@ -129,6 +129,10 @@ public final class NowEdgesTest {
         Check.sentence("FETCH; NONE if all are at HOME, or she can't come to one that is not.");
         Check.due("without houses", new NightHouses().fetch(), -1);
         Check.due("all at home", Check.told("house a at 3 3;house b at 0 0;").fetch(), -1);
+        NightHouses five = Check.told("land 6 by 1;house a at 1 0;house b at 1 0;house c at 1 0;house d at 1 0;house e at 1 0;cat 0 0;goes (which=4)*2;");
+        Check.due("all five at home", five.fetch(), -1);
+        five.step(false);
+        Check.due("the fifth", five.fetch(), 4);
         NightHouses off = Check.told("land 4 by 1;hedge 1 0;house a at 2 0;cat 0 0;goes 2;");
         off.step(false);
         Check.due("she can't come", off.fetch(), -1);

@@ -600,6 +600,14 @@ public final class TextEdgesTest {
             Check.due("land() with as much as can be, again", x.land(), 5);
             Check.due("its hedges and units", x.about(3) * 100 + x.about(13), 830);
         }
+        String[] shorter = {"house a at 0 0;goes 1+1+1+1;", "house a at 0 0;goes 1+1+1+1;", "house a at 0 0;goes 3;",
+            "house a at 0 0;goes 2+1;", "house a at 0 0;", "house a at 0 0;"};
+        int[] ways = {4, 4, 3, 3, 0, 0};
+        for (int i = 0; i < ways.length; i++) {
+            Check.tape(x, shorter[i]);
+            x.land();
+            Check.due("nothing of a longer formula is left", x.house(0, 4), ways[i]);
+        }
         Check.tape(x, "");
         Check.due("land() of nothing", x.land(), 0);
         NightHouses empty = new NightHouses();
